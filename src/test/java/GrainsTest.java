@@ -13,8 +13,11 @@ public final class GrainsTest {
         lowestAndFullest();
         toldOrder();
         lots();
+        lotsOfManySeeds();
+        orderOfTwelve();
         asked();
         askedLoose();
+        askedAheadOrBehind();
         askedRowStays();
         runs();
         runIsFull();
@@ -234,6 +237,79 @@ public final class GrainsTest {
         due("35: a lot of one is a lot, too", x.told(6), next);
         due("13: stands", x.run(1), 0);
         due("35: no lot for nothing", x.told(6), next);
+    }
+
+    private static void lotsOfManySeeds() {
+        for (int seed = 2; seed < 40; seed++) {
+            ScreeCourt x = Findings.fan();
+            for (int place = 0; place < 3; place++) {
+                x.lay(place, 1);
+            }
+            x.manner(3, seed);
+            x.run(1);
+            long lot = (seed * 1103515245L + 12345L) % 2147483648L / 256L % 3L;
+            for (int place = 0; place < 3; place++) {
+                due("13: lot of seed " + seed, x.grains(place), place == lot ? 0 : 1);
+            }
+        }
+    }
+
+    private static void orderOfTwelve() {
+        ScreeCourt x = new ScreeCourt();
+        for (int place = 0; place < 12; place++) {
+            x.place(Findings.RIM);
+            x.way(place, -1, 1);
+        }
+        x.begin();
+        for (int place = 0; place < 12; place++) {
+            x.lay(place, 1);
+            x.tell((place + 5) % 12);
+        }
+        due("12: twelve places", x.manner(2, 0), 0);
+        for (int i = 0; i < 12; i++) {
+            x.run(1);
+            due("13: number " + i + " of the order", x.grains((i + 5) % 12), 0);
+            due("10: the others", x.due(), 11 - i);
+        }
+    }
+
+    /** LEDGEs 0, 1 and 3 have a way to RIM 4, and 2 has ways to 0 and 1. */
+    private static ScreeCourt fork(int kindOfTwo) {
+        ScreeCourt x = new ScreeCourt();
+        for (int place = 0; place < 5; place++) {
+            x.place(place == 2 ? kindOfTwo : place == 4 ? Findings.RIM : Findings.LEDGE);
+        }
+        x.way(0, 4, 1);
+        x.way(1, 4, 1);
+        x.way(2, 1, 1);
+        x.way(2, 0, 1);
+        x.way(3, 4, 1);
+        x.way(4, -1, 9);
+        x.begin();
+        x.manner(4, 0);
+        x.lay(2, 2);
+        x.lay(3, 1);
+        return x;
+    }
+
+    private static void askedAheadOrBehind() {
+        // 0 and 1 are asked in vain, 2 slides
+        ScreeCourt loose = fork(Findings.LOOSE);
+        // row 0 1 3 4
+        int[] order = {2, 0, 1, 3};
+        for (int i = 0; i < order.length; i++) {
+            loose.run(1);
+            due("13: ahead of the row, slide " + i, loose.odometer(order[i]), 1);
+            due("13: and no other", loose.due(), i == 0 ? 3 : 3 - i);
+        }
+        ScreeCourt ledge = fork(Findings.LEDGE);
+        // row 3 4 0 1
+        order = new int[] {2, 3, 0, 1};
+        for (int i = 0; i < order.length; i++) {
+            ledge.run(1);
+            due("13: behind the row, slide " + i, ledge.odometer(order[i]), 1);
+            due("13: and no other", ledge.due(), i == 0 ? 3 : 3 - i);
+        }
     }
 
     /** LEDGE 0 to 1 and 2; LEDGE 1 to 0 and 2; RIM 2 to 1 and to ditch 0. */

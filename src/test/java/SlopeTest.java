@@ -207,14 +207,11 @@ public final class SlopeTest {
         x.tell(5);
         x.told(77);
         x.burnt(-1);
-        x.lay(0, 1);
-        x.slide(0);
-        x.lay(0, 2);
-        x.slide(0);
         x.burn();
+        due("17: not all burn", x.burnt(-1) != 0 ? 1 : 0, 1);
         x.anew();
         due("5: numbers wait on", x.told(5), 2);
-        due("5: findings count on", x.told(8), 2);
+        due("5: findings count on", x.told(8), 1);
         due("5: the terrace is there", x.copy(2, 1, 2, 0, 1), 1);
         x.place(Findings.RIM);
         x.way(0, -1, 9);

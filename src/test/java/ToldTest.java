@@ -56,6 +56,7 @@ public final class ToldTest {
         due("32: whether due or not", enoughOf(x, 1000000, 1000000), 1);
         due("32: too much of one", enoughOf(x, 0, 1000000), 0);
         due("32: nothing slid", x.grains(0), 7);
+        due("35: none is a finding", x.told(8), 0);
         due("34: nothing more to undo", x.undo(), 0);
     }
 
@@ -159,13 +160,23 @@ public final class ToldTest {
         due("14: odometer(0)", x.odometer(0), 0);
         due("14: odometer(1)", x.odometer(1), 0);
         due("35: the seed", x.told(6), 5);
+        x.run(9);
+        long[] before = {x.grains(-1), x.grains(-2), x.odometer(0), x.odometer(1), x.told(6)};
+        x.lay(0, 9);
+        x.run(9);
+        due("34: undo", x.undo(), 3);
+        long[] then = {x.grains(-1), x.grains(-2), x.odometer(0), x.odometer(1), x.told(6)};
+        for (int i = 0; i < before.length; i++) {
+            due("34: as it was, " + i, then[i], before[i]);
+            due("34: which was not nothing", before[i] != 0 ? 1 : 0, 1);
+        }
         ScreeCourt y = Findings.fan();
         y.manner(4, 0);
         y.lay(0, 1);
         y.run(1);
         y.lay(0, 1);
         y.lay(2, 1);
-        y.run(9);
+        y.run(1);
         due("34: the row 1 2 3 is back", y.undo(), 4);
         y.run(1);
         due("13: 2 is asked ahead of 0", y.grains(2), 0);

@@ -20,6 +20,9 @@ public final class TwinTest {
         for (int run = 0; run < RUNS && ANSWERS.wrong() == 0; run++) {
             new TwinTest(run).callOn();
         }
+        for (int weight = 60; weight <= 99 && ANSWERS.wrong() == 0; weight++) {
+            new TwinTest(-weight).slideLong(weight);
+        }
         ANSWERS.end();
     }
 
@@ -59,6 +62,25 @@ public final class TwinTest {
                 callAny(below(NAMES));
             }
         }
+    }
+
+    /** A line so heavy that NOUGHT and CONTRARY take about as many slides as they may. */
+    private void slideLong(int weight) {
+        for (int p = 0; p < 12; p++) {
+            place(p == 0 ? 3 : 2);
+        }
+        way(0, -1, 1);
+        for (int p = 1; p < 12; p++) {
+            for (int left = weight; left > 0; left -= 9) {
+                way(p, p - 1, Math.min(left, 9));
+                way(p - 1, p, Math.min(left, 9));
+            }
+        }
+        begin();
+        same("nought(0)", court.nought(0), plain.nought(0));
+        same("lay(5, 77)", court.lay(5, 77), plain.lay(5, 77));
+        same("keep(1)", court.keep(1), plain.keep(1));
+        same("contrary(1, 2)", court.contrary(1, 2), plain.contrary(1, 2));
     }
 
     private int places() {
