@@ -355,7 +355,7 @@ public final class ScreeCourt {
         for (int place = 0; place < slope.size; place++) {
             trial.grains[place] = slots[slot][place] + slots[other][place];
         }
-        return trial.settle() ? fillSlot(to, trial) : found(FULL);
+        return settleInto(to);
     }
 
     public int nought(int to) {
@@ -372,7 +372,7 @@ public final class ScreeCourt {
             return found(FULL);
         }
         trial.takeGrains(leftOfA);
-        return trial.settle() ? fillSlot(to, trial) : found(FULL);
+        return settleInto(to);
     }
 
     public int contrary(int slot, int to) {
@@ -398,7 +398,7 @@ public final class ScreeCourt {
         for (int place = 0; place < slope.size; place++) {
             trial.grains[place] = 2 * leftOfA[place] - trial.grains[place];
         }
-        return trial.settle() ? fillSlot(to, trial) : found(FULL);
+        return settleInto(to);
     }
 
     public int many(int p) {
@@ -585,6 +585,10 @@ public final class ScreeCourt {
         System.arraycopy(from.grains, 0, slots[slot], 0, MOST_PLACES);
         slotFilled[slot] = true;
         return from.sum();
+    }
+
+    private int settleInto(int slot) {
+        return trial.settle() ? fillSlot(slot, trial) : found(FULL);
     }
 
     /** False when the sliding of A is too much. */
