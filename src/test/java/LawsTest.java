@@ -71,30 +71,41 @@ public final class LawsTest {
     /** What a run does, told slide by slide, is right to check(), and its odometer is enough(). */
     private static void ownSlidesAreRight() {
         for (int manner = 0; manner < 5; manner++) {
-            ScreeCourt x = grid(manner);
             ScreeCourt twin = grid(manner);
-            setManner(x, manner);
-            long[] slid = new long[12];
-            long[] had = new long[12];
-            while (x.told(3) == 0 && twin.told(5) < 200) {
-                for (int p = 0; p < 12; p++) {
-                    slid[p] = x.odometer(p);
-                    had[p] = x.grains(p);
-                }
-                x.run(1);
-                for (int p = 0; p < 12; p++) {
-                    if (x.odometer(p) != slid[p]) {
-                        twin.tell(p);
-                        twin.tell((int) had[p]);
-                    }
-                }
+            int slides = ranFor(manner, 5000).told(3) == 1 ? slidesOf(manner) : 0;
+            due("it stands in manner " + manner, slides > 0 ? 1 : 0, 1);
+            int told = Math.min(slides, 100);
+            for (int i = 0; i < told; i++) {
+                tellSlide(twin, ranFor(manner, i), ranFor(manner, i + 1));
             }
-            due("told slides of manner " + manner, twin.check(), x.told(3) == 1 ? 0 : 1000);
-            x.run(5000);
+            due("told slides of manner " + manner, twin.check(), told == slides ? 0 : 1000);
+            ScreeCourt x = ranFor(manner, 5000);
             for (int p = 0; p < 12; p++) {
                 twin.tell((int) x.odometer(p));
             }
             due("the odometer of manner " + manner, twin.enough(), 1);
+        }
+    }
+
+    private static int slidesOf(int manner) {
+        ScreeCourt x = grid(manner);
+        setManner(x, manner);
+        return x.run(5000);
+    }
+
+    private static ScreeCourt ranFor(int manner, int slides) {
+        ScreeCourt x = grid(manner);
+        setManner(x, manner);
+        x.run(slides);
+        return x;
+    }
+
+    private static void tellSlide(ScreeCourt twin, ScreeCourt before, ScreeCourt behind) {
+        for (int p = 0; p < 12; p++) {
+            if (before.odometer(p) != behind.odometer(p)) {
+                twin.tell(p);
+                twin.tell((int) before.grains(p));
+            }
         }
     }
 
