@@ -317,7 +317,9 @@ public final class AgainEdgesTest {
             x.begin();
             keepRow(x, 0, r[0], r[1]);
             due("23: the row's own slides", slides(x), r[2]);
+            int findings = x.told(8);
             due("23: of a row of " + r[2] + " slides", x.contrary(0, 1), r[2] <= 20000 ? 1 : Findings.FULL);
+            due("35: FULL is counted", x.told(8) - findings, r[2] <= 20000 ? 0 : 1);
             due("23: what came", x.bring(1), r[2] <= 20000 ? 1 : Findings.NONE);
             keepRow(x, 2, 0, 0);
             due("21: such a row and none", x.plus(0, 2, 3), r[2] <= 20000 ? 1 : Findings.FULL);
@@ -334,6 +336,7 @@ public final class AgainEdgesTest {
         not.keep(0);
         due("22: NOUGHT is not FULL there", not.nought(2) > 0 ? 1 : 0, 1);
         due("23: twice in 20001 slides", not.contrary(0, 1), Findings.FULL);
+        due("35: FULL is counted", not.told(8), 1);
         due("23: nothing came", not.bring(1), Findings.NONE);
     }
 

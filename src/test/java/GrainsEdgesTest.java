@@ -137,10 +137,34 @@ public final class GrainsEdgesTest {
         for (int d = 0; d < 3; d++) {
             due("5: ditch " + d, x.grains(-1 - d), 0);
         }
+        anewBehindAllWays();
         ScreeCourt twice = new ScreeCourt();
         due("5: of a new object", twice.anew(), 0);
         due("5: and again", twice.anew(), 0);
         due("5: no finding", twice.told(8), 0);
+    }
+
+    /** Every way there can be has a weight, and then none has. */
+    private static void anewBehindAllWays() {
+        ScreeCourt x = placesOf(12, Findings.RIM);
+        for (int p = 0; p < 12; p++) {
+            for (int to = -3; to < 12; to++) {
+                x.way(p, to, 1);
+            }
+        }
+        x.anew();
+        for (int p = 0; p < 12; p++) {
+            x.place(Findings.RIM);
+        }
+        for (int p = 0; p < 12; p++) {
+            due("5: the load of " + p, x.way(p, -1 - p % 3, 2), 2);
+            x.way(p, -1 - p % 3, 1);
+            for (int to = -3; to < 12; to++) {
+                if (to != -1 - p % 3) {
+                    due("5: weight(" + p + ", " + to + ")", x.weight(p, to), 0);
+                }
+            }
+        }
     }
 
     private static void lays() {
@@ -270,7 +294,12 @@ public final class GrainsEdgesTest {
             due("35: it stays", x.told(6), 0);
         }
         Findings.tellAll(x, 1, 0);
+        for (int manner : new int[] {0, 1, 3, 4}) {
+            x.manner(manner, 0);
+            due("12: numbers are of 2 alone", x.told(5), 2);
+        }
         due("12: the seed is of 3 alone", x.manner(2, -1), 4);
+        due("12: the numbers are gone", x.told(5), 0);
         due("35: it stays", x.told(6), 0);
         due("12: an order is needed again", x.manner(2, 0), Findings.BEYOND);
         due("12: it is 2 still", x.manner(1, 0), 2);

@@ -79,10 +79,14 @@ final class Readings {
 
     private static List<Long> undone(ScreeCourt x) {
         List<Long> read = new ArrayList<>();
-        for (int i = 0; i < 21; i++) {
-            read.add((long) x.undo());
+        int left = x.undo();
+        for (int i = 0; i < 21 && left != Findings.NONE; i++) {
+            read.add((long) left);
             readGrains(x, read);
+            left = x.undo();
         }
+        read.add((long) left);
+        readGrains(x, read);
         return read;
     }
 

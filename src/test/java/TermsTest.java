@@ -18,6 +18,7 @@ public final class TermsTest {
         askedOfDitches();
         askedLooseLowestFirst();
         askedLooseAmongThose();
+        askedLooseOfTheLast();
         askedByRunAlone();
         askedBehindSpent();
         askedBehindFull();
@@ -377,19 +378,41 @@ public final class TermsTest {
         slideIs("all are asked", x, 0);
     }
 
+    /** LOOSE 0 has ways to 1 and to the last place; RIM 1 has one to 0. */
+    private static void askedLooseOfTheLast() {
+        ScreeCourt x = new ScreeCourt();
+        x.place(Findings.LOOSE);
+        x.place(Findings.RIM);
+        x.place(Findings.RIM);
+        x.way(0, 1, 1);
+        x.way(0, 2, 1);
+        x.way(1, 0, 1);
+        x.way(1, -1, 9);
+        x.way(2, -1, 1);
+        x.begin();
+        x.manner(4, 0);
+        x.lay(1, 10);
+        x.lay(2, 1);
+        slideIs("0 in vain", x, 1);
+        slideIs("row 2 0", x, 2);
+        x.lay(0, 7);
+        slideIs("row 0", x, 0);
+        slideIs("row 1 2, and 1 is not due", x, 2);
+        slideIs("all are asked", x, 0);
+    }
+
     private static void askedByRunAlone() {
         ScreeCourt x = loose();
         x.lay(0, 9);
-        due("slide() asks nobody", x.slide(0), 1);
-        for (int p = 1; p < 4; p++) {
-            x.lay(p, -1);
-        }
         x.lay(4, 1);
-        slideIs("the row is empty still: 0 first", x, 0);
+        due("slide() of 0", x.slide(0), 1);
+        slideIs("the row is empty still", x, 0);
         slideIs("row 1 2 3 4", x, 1);
-        due("slide() leaves the row", x.slide(2), 1);
-        slideIs("row 2 3 4", x, 3);
+        slideIs("row 2 3 4", x, 2);
+        due("slide() of 0", x.slide(0), 1);
+        slideIs("row 3 4 still", x, 3);
         slideIs("row 4", x, 4);
+        slideIs("all are asked", x, 1);
     }
 
     private static void askedBehindSpent() {

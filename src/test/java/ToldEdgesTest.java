@@ -22,6 +22,7 @@ public final class ToldEdgesTest {
         spreadsToTheLimit();
         numbersThatWait();
         enoughOfTwelve();
+        numbersOfBefore();
         enoughAtTheLoad();
         enoughBeyondInt();
         checkOfNone();
@@ -337,6 +338,22 @@ public final class ToldEdgesTest {
         due("32: -1 at the first", enoughOf(x, 12, counts), Findings.DEBT);
     }
 
+    /** Numbers that are gone are not looked at any more. */
+    private static void numbersOfBefore() {
+        ScreeCourt x = Findings.pair();
+        due("32: one too many", enoughOf(x, 3, 0, 0, -1), Findings.SIZE);
+        due("32: without that one", enoughOf(x, 2, 0, 0), 1);
+        x.lay(0, 3);
+        due("33: a right one behind one that is not", checkOf(x, 9, 9, 0, 3), 1);
+        due("33: cut", checkOf(x, 0), 1);
+        due("33: a right one", checkOf(x, 0, 3), 0);
+        Findings.tellAll(x, 1, 0);
+        due("12: an order", x.manner(2, 0), 0);
+        x.tell(0);
+        due("12: the half of one", x.manner(2, 0), Findings.BEYOND);
+        due("32: SIZE", x.enough(), Findings.SIZE);
+    }
+
     private static void enoughAtTheLoad() {
         for (int p = 0; p < 12; p++) {
             ScreeCourt x = twelve();
@@ -406,29 +423,23 @@ public final class ToldEdgesTest {
         due("35: none of these is a finding", x.told(8), 0);
     }
 
-    private static void tellHundred(ScreeCourt x, int count) {
-        for (int i = 0; i < count; i++) {
-            x.tell(i % 2 == 0 ? 0 : 100 - i / 2);
+    /** LEDGE 0 with so many grains, and as many numbers of its slides, one by one, wait. */
+    private static ScreeCourt dripTold(int grains, int numbers) {
+        ScreeCourt x = Findings.drip();
+        x.lay(0, grains);
+        for (int i = 0; i < numbers; i++) {
+            x.tell(i % 2 == 0 ? 0 : grains - i / 2);
         }
+        return x;
     }
 
-    /** LEDGE 0 of 100 grains slides a hundred times; 99 of them leave it due, and 1 is due, too. */
     private static void checkOfHundredPairs() {
-        ScreeCourt x = Findings.drip();
-        x.lay(0, 100);
-        tellHundred(x, 200);
-        due("33: a hundred right ones, and 1 is due", x.check(), 1000);
-        tellHundred(x, 199);
-        due("33: the hundredth is cut", x.check(), 100);
-        tellHundred(x, 198);
-        due("33: the hundredth is wrong", checkOf(x, 0, 2), 100);
-        tellHundred(x, 198);
-        due("33: a hundredth of 1", checkOf(x, 1, 99), 1000);
-        x.lay(0, -1);
-        for (int i = 0; i < 198; i++) {
-            x.tell(i % 2 == 0 ? 0 : 99 - i / 2);
-        }
-        due("33: a hundred, and it stands", checkOf(x, 1, 99), 0);
+        due("33: a hundred right ones, and 1 is due", dripTold(100, 200).check(), 1000);
+        due("33: the hundredth is cut", dripTold(100, 199).check(), 100);
+        due("33: the hundredth is wrong", checkOf(dripTold(100, 198), 0, 2), 100);
+        due("33: the hundredth is of 1", checkOf(dripTold(100, 198), 1, 99), 1000);
+        due("33: a hundred, and it stands", checkOf(dripTold(99, 198), 1, 99), 0);
+        due("33: the hundredth is cut there", checkOf(dripTold(99, 198), 1), 100);
     }
 
     private static void checkToTheLimit() {
