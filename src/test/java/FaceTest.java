@@ -7,6 +7,7 @@ import java.nio.file.Files;
 import java.nio.file.Path;
 import java.util.Set;
 import java.util.TreeSet;
+import java.util.regex.Matcher;
 import java.util.regex.Pattern;
 
 /** The public face of the document, and rules of LANGUAGE.md that can be seen from outside. */
@@ -15,6 +16,7 @@ public final class FaceTest {
     private static final int MOST_CLASSES = 12;
     private static final int MOST_FIELDS = 20;
     private static final int MOST_PARAMETERS = 7;
+    private static final int MOST_LINES = 60;
 
     private static final String[] FACE = {
         "int place(int)", "int way(int,int,int)", "int begin()", "int anew()", "int as(int,int)",
@@ -32,11 +34,17 @@ public final class FaceTest {
         "Object", "System.out", "System.exit", "hashCode", "toString", "volatile", "Thread",
     };
 
+    private static final Set<String> LIBRARY = Set.of("System.arraycopy", "Math.max", "Math.min", "Math.floorMod",
+            "Long.MIN_VALUE");
+
     public static void main(String[] args) throws IOException {
         face();
         members();
         classesInside();
-        words();
+        String code = codeAlone();
+        words(code);
+        library(code);
+        lengths(code);
         ANSWERS.end();
     }
 
@@ -117,14 +125,40 @@ public final class FaceTest {
         }
     }
 
-    private static void words() throws IOException {
+    /** The source with its lines, but without its comments. */
+    private static String codeAlone() throws IOException {
         String source = Files.readString(Path.of("src/main/java/ScreeCourt.java"));
-        String code = source.replaceAll("(?s)/\\*.*?\\*/", " ").replaceAll("//[^\n]*", " ");
+        return source.replaceAll("(?s)/\\*.*?\\*/", " ").replaceAll("//[^\n]*", " ");
+    }
+
+    private static void words(String code) {
         for (String word : RULED_OUT) {
             holds("no " + word, !Pattern.compile("\\b" + Pattern.quote(word) + "\\b").matcher(code).find());
         }
         holds("no lambda", !code.contains("->"));
         holds("no method reference", !code.contains("::"));
         holds("no library function that ends in Exact", !code.contains("Exact("));
+        holds("no text", !code.contains("\""));
+    }
+
+    private static void library(String code) {
+        Matcher use = Pattern.compile("\\b[A-Z][A-Za-z]*\\.\\w+").matcher(code);
+        while (use.find()) {
+            holds("the library has " + use.group() + " for us", LIBRARY.contains(use.group()));
+        }
+    }
+
+    /** Methods of the class stand 4 columns in, those of the classes inside it 8. */
+    private static void lengths(String code) {
+        int methods = 0;
+        for (String in : new String[] {"    ", "        "}) {
+            Matcher method = Pattern.compile("(?sm)^" + in + "[\\w][^;={}]*\\) \\{\n(.*?)^" + in + "}").matcher(code);
+            while (method.find()) {
+                methods++;
+                String head = method.group().substring(0, method.group().indexOf('{')).trim();
+                holds(head + " is short", method.group(1).lines().count() <= MOST_LINES);
+            }
+        }
+        holds("methods are found: " + methods, methods > FACE.length);
     }
 }
